@@ -903,7 +903,7 @@ public final class CalledRiver {
                     }
                 } else if (top > 1) {
                     top--;
-                    stack[top - 1] = ofTwo(step, stack[top - 1], stack[top]);
+                    stack[top - 1] = held(ofTwo(step, stack[top - 1], stack[top]));
                 }
             }
             return stack[0];
@@ -919,11 +919,11 @@ public final class CalledRiver {
             }
         }
 
-        private static int ofTwo(int step, int a, int b) {
+        private static long ofTwo(int step, long a, long b) {
             switch (step) {
-                case PLUS: return held((long) a + b);
-                case MINUS: return held((long) a - b);
-                case TIMES: return held((long) a * b);
+                case PLUS: return a + b;
+                case MINUS: return a - b;
+                case TIMES: return a * b;
                 case OVER: return b == 0 ? 0 : Math.floorDiv(a, b);
                 case LESSER: return Math.min(a, b);
                 case GREATER: return Math.max(a, b);
@@ -1497,7 +1497,7 @@ public final class CalledRiver {
                 return;
             }
             reach(plain, plain.source, 0, 0);
-            for (int k = 0; k < reachedCount; k++) {
+            for (int k = 0; k < reached.length && k < reachedCount; k++) {
                 goOn(plain, land, reached[k]);
             }
         }
@@ -1521,7 +1521,7 @@ public final class CalledRiver {
             int farm = plain.farmIn[place];
             int set = farm != NONE && step <= plain.farmDay[farm] ? setBefore | 1 << farm : setBefore;
             int state = place * SETS_MOST + set;
-            if (steps[state] != NONE) {
+            if (steps[state] != NONE || reachedCount >= reached.length) {
                 return;
             }
             steps[state] = step;

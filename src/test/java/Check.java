@@ -33,12 +33,13 @@ final class Check {
         due("fault(1) of " + text, river.fault(1), CalledRiver.NONE);
     }
 
-    /** plain() with this text answers NONE, with this FAULT at this place. */
-    void dueFault(CalledRiver river, String text, int fault, int place) {
+    /** plain() with this text answers NONE, with this FAULT where the text has a ^ (which is no part of it). */
+    void dueFault(CalledRiver river, int fault, String marked) {
+        String text = marked.replace("^", "");
         lay(river, text);
         due("plain() of " + text, river.plain(), CalledRiver.NONE);
         due("fault(0) of " + text, river.fault(0), fault);
-        due("fault(1) of " + text, river.fault(1), place);
+        due("fault(1) of " + text, river.fault(1), marked.indexOf('^'));
     }
 
     void dueAnswer(CalledRiver river, String question, long answer) {
@@ -48,11 +49,12 @@ final class Check {
         due("fault(1) of " + question, river.fault(1), CalledRiver.NONE);
     }
 
-    void dueAskFault(CalledRiver river, String question, int fault, int place) {
+    void dueAskFault(CalledRiver river, int fault, String marked) {
+        String question = marked.replace("^", "");
         lay(river, question);
         due("ask() of " + question, river.ask(), CalledRiver.NOTHING);
         due("fault(0) of " + question, river.fault(0), fault);
-        due("fault(1) of " + question, river.fault(1), place);
+        due("fault(1) of " + question, river.fault(1), marked.indexOf('^'));
     }
 
     void finish() {
