@@ -195,9 +195,12 @@ public final class ActsTest {
         river.bake(1, 9);
         river.dig(0, 0);
         river.stone(1, 0, 1);
+        check.due("way", river.leads(1, 0), 2);
         river.chance(7);
         check.due("KEPT", river.has(8), 8);
-        for (int k = 0; k < 4; k++) {
+        river.undo();
+        check.due("way", river.leads(1, 0), 2);
+        for (int k = 0; k < 3; k++) {
             check.due("undo", river.undo(), true);
         }
         duePicture(check, river, second);

@@ -63,6 +63,7 @@ public final class ImageTest {
         CalledRiver river = Check.river(TEXT);
         river.spring(0);
         river.bake(0, 1);
+        check.due("a way", river.leads(0, 0), 1);
         Check.lay(river, Check.sealed(3, 231, 9, 1, 99, 0, 0, 0, 0, 0, 98, 9, 0, 1, 9, 0, 0));
         check.due("on", river.on(), true);
         check.due("YEAR", river.has(4), 999);

@@ -47,6 +47,8 @@ public final class PiesTest {
         check.due("a, first of like ones", river.bid(0, 0), 6);
         check.due("b, first of like ones", river.bid(1, 0), 6);
         check.due("c", river.bid(2, 0), 0);
+        check.due("a, 9 at the most", Check.river(text.replace("-6*", "-9*")).bid(0, 0), 9);
+        check.due("a, 10 would do", Check.river(text.replace("-6*", "-10*")).bid(0, 0), -1);
         CalledRiver late = Check.river(text.replace("day 2", "day 1"));
         check.due("b, a day late", late.bid(1, 0), -1);
     }
@@ -62,6 +64,9 @@ public final class PiesTest {
         check.due("a, and b that has none", river.rest(1), 3);
         check.due("b that has none", river.rest(0), 2);
         check.due("the pies stay", river.has(7), 1);
+        CalledRiver either = Check.river("plain 3 by 3;source 1;farm a at 0 0 day 5 pie 1;farm b at 2 0 day 5 pie 1;caller k bold 0 kind 0;"
+                + "goes 9*pie+down*(step-3);");
+        check.due("either one's pie waters both: the least bits", either.rest(0), 1);
         check.due("a pie of 9 where one is watered without", Check.river(
                 "plain 2 by 2;farm a at 0 1 day 1 pie 9;caller b bold 0 kind 0;").rest(0), 0);
     }

@@ -37,7 +37,7 @@ public final class PlainTest {
         for (String marked : new String[] {"^", "   \n^", "^;", "^plan 3 by 3;", "^plains 3 by 3;", "^Plain 3 by 3;", "^high 0 0 1;",
             "^3 by 3;", "^pla\tin 3", "plain^\t3 by 3;", "plain^", "plain ^by", "plain 3 ^at 3;", "plain 3 by^", "plain 3 by 3 ^", "plain 3 by 3 ^3;",
             "plain 3 by 3^,", "plain 1234^5 by 3;", "plain 3 by 3;^x", "plain 3 by 3;^plain 3 by 3;", "plain 3 by 3;^;", "plain 3 by 3;^by",
-            "plain 3 by 3;^first", "plain 3 by 3;high 0 0 5 ^high", "plain 3 by 3;high 0 0 ^;", "plain 3 by 3;farm ^3",
+            "plain 3 by 3;^first", "plain 3 by 3;high 0 0 5 ^high", "plain 3 by 3;high 0 0 ^;", "plain 3 by 3;farm ^3", "plain 3 by 3;farm ^at at 0 0", "plain 3 by 3;caller ^bold bold 0",
             "plain 3 by 3;farm ^column at", "plain 3 by 3;farm abcdef^g at", "plain 3 by 3;farm column^s", "plain 3 by 3;farm a ^by",
             "plain 3 by 3;farm a at 0 0 ^pie", "plain 3 by 3;farm a at 0 0 day 1 ^;", "plain 3 by 3;caller ^all",
             "plain 3 by 3;caller a ^kind", "plain 3 by 3;caller a bold 1 ^;", "plain 3 by 3;source^", "plain 3 by 3;goes ^;",
@@ -168,7 +168,9 @@ public final class PlainTest {
         Check.lay(river, "plain 2 by 2;caller a bold 0 kind 0;caller b bold 0 kind 0;caller c bold 0 kind 0;");
         river.image();
         int latest = river.octet(3 + 36);
+        check.due("steps", river.leads(0, 0), 3);
         check.due("plain", river.plain(), 4);
+        check.due("steps of the new way", river.leads(0, 0), 1);
         check.due("octet of the latest image", river.octet(3 + 36), latest);
         for (int what : new int[] {2, 4, 5, 6, 7, 8, 9, 10}) {
             check.due("has " + what, river.has(what), 0);

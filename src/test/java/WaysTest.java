@@ -210,5 +210,7 @@ public final class WaysTest {
         river.stone(1, 2, 1);
         check.due("a is far", river.least(1), -1);
         check.due("a and b", river.dry(), 3);
+        river = Check.river("plain 5 by 2;source 2;farm a at 0 0 day 2 pie 0;farm b at 0 1 day 3 pie 0;farm c at 4 0 day 2 pie 0;");
+        check.due("c alone, not a and b", river.dry(), 4);
     }
 }
