@@ -1,15 +1,25 @@
 import java.nio.charset.StandardCharsets;
 
 /** Counts answers that are not as due, and lays texts on the tape. */
-final class Check {
+class Check {
     private int wrong;
     private int calls;
+    private String heading = "";
+
+    /** What is said ahead of each wrong answer from here on. */
+    final void under(String newHeading) {
+        heading = newHeading;
+    }
+
+    final int calls() {
+        return calls;
+    }
 
     void due(String what, long got, long want) {
         calls++;
         if (got != want) {
             wrong++;
-            System.out.println(what + " answered " + got + ", due is " + want);
+            System.out.println(heading + what + " answered " + got + ", due is " + want);
         }
     }
 
