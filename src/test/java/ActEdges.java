@@ -51,7 +51,8 @@ final class ActEdges {
 
     private void spring() {
         check.sentence("24", "A YEAR with a CALLER: how many FARMS were WATERED;");
-        String all = "plain 2 by 6;farm a at 0 0 day 1 pie 1;farm b at 0 1 day 1 pie 1;farm d at 0 2 day 2 pie 1;farm e at 0 3 day 3 pie 1;farm f at 0 4 day 4 pie 1;farm g at 0 5 day 5 pie 1;";
+        String all = "plain 2 by 6;farm a at 0 0 day 1 pie 1;farm b at 0 1 day 1 pie 1;farm d at 0 2 day 2 pie 1;"
+                + "farm e at 0 3 day 3 pie 1;farm f at 0 4 day 4 pie 1;farm g at 0 5 day 5 pie 1;";
         check.due("all six", Check.river(all + CALLER).spring(0), 6);
         check.due("none", Check.river("plain 2 by 2;" + CALLER).spring(0), 0);
         check.due("none by its day", Check.river("plain 2 by 3;farm a at 0 2 day 1 pie 1;" + CALLER).spring(0), 0);
@@ -184,8 +185,8 @@ final class ActEdges {
 
     private void undo() {
         check.sentence("29", "The latest ACT is undone (the seed stays): true;");
-        SentenceCheck.Call[] acts = {river -> river.spring(0), river -> river.bake(0, 9) ? 1 : 0, river -> river.dig(1, 0), river -> river.stone(1, 1, 0) ? 1 : 0,
-            river -> river.stone(0, 2, 1) ? 1 : 0, river -> river.stone(0, 0, 1) ? 1 : 0};
+        SentenceCheck.Call[] acts = {river -> river.spring(0), river -> river.bake(0, 9) ? 1 : 0, river -> river.dig(1, 0),
+            river -> river.stone(1, 1, 0) ? 1 : 0, river -> river.stone(0, 2, 1) ? 1 : 0, river -> river.stone(0, 0, 1) ? 1 : 0};
         for (SentenceCheck.Call act : acts) {
             CalledRiver river = SentenceCheck.busy();
             check.due("an ACT", act.on(river) != NONE, true);
@@ -448,9 +449,11 @@ final class ActEdges {
     }
 
     private void status() {
-        check.sentence("35", "How many were refused: 0 feed(), end(); 1 plain(), see(); 2 spring(), chance(); 3 bake(), dig(), stone(); 4 undo(); 5 seed(), on().");
-        SentenceCheck.Call[] calls = {river -> river.end(-1) ? 1 : 0, CalledRiver::plain, CalledRiver::see, river -> river.spring(-1), river -> river.chance(0), river -> river.bake(-1, 0) ? 1 : 0,
-            river -> river.dig(-1, 0), river -> river.stone(-1, 0, 0) ? 1 : 0, river -> river.undo() ? 1 : 0, river -> river.seed(-1) ? 1 : 0, river -> river.on() ? 1 : 0};
+        check.sentence("35",
+                "How many were refused: 0 feed(), end(); 1 plain(), see(); 2 spring(), chance(); 3 bake(), dig(), stone(); 4 undo(); 5 seed(), on().");
+        SentenceCheck.Call[] calls = {river -> river.end(-1) ? 1 : 0, CalledRiver::plain, CalledRiver::see, river -> river.spring(-1),
+            river -> river.chance(0), river -> river.bake(-1, 0) ? 1 : 0, river -> river.dig(-1, 0), river -> river.stone(-1, 0, 0) ? 1 : 0,
+            river -> river.undo() ? 1 : 0, river -> river.seed(-1) ? 1 : 0, river -> river.on() ? 1 : 0};
         int[] sorts = {0, 1, 1, 2, 2, 3, 3, 3, 4, 5, 5};
         CalledRiver river = new CalledRiver();
         int[] counts = new int[6];

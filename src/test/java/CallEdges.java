@@ -5,7 +5,8 @@ final class CallEdges {
     private static final int NONE = CalledRiver.NONE;
     private static final int[] NO_INDEX = {-1, 5, 6, 40, FAR, LOW};
     private static final String CALLER = "caller c bold 0 kind 0;";
-    private static final String PLAIN = "plain 2 by 2;farm a at 0 1 day 1 pie 5;farm b at 1 0 day 1 pie 4;caller l bold 0 kind 0;caller r bold 1 kind 0;goes down*(2*bold-1);";
+    private static final String PLAIN = "plain 2 by 2;farm a at 0 1 day 1 pie 5;farm b at 1 0 day 1 pie 4;"
+            + "caller l bold 0 kind 0;caller r bold 1 kind 0;goes down*(2*bold-1);";
 
     private final SentenceCheck check;
 
@@ -88,7 +89,8 @@ final class CallEdges {
 
     private void rest() {
         check.sentence("18", "At REST by a CALLER, as bits; NONE when no set is, there is no WAY, or there is none such.");
-        CalledRiver river = Check.river("plain 3 by 2;source 1;farm a at 0 0 day 3 pie 1;farm b at 2 0 day 3 pie 1;goes pie*(9-bold)-bold*down;caller k bold 0 kind 0;caller s bold 9 kind 0;");
+        CalledRiver river = Check.river("plain 3 by 2;source 1;farm a at 0 0 day 3 pie 1;farm b at 2 0 day 3 pie 1;"
+                + "goes pie*(9-bold)-bold*down;caller k bold 0 kind 0;caller s bold 9 kind 0;");
         check.due("no set", river.rest(0), NONE);
         check.due("nobody", river.rest(1), 0);
         for (int none : NO_INDEX) {
@@ -104,7 +106,8 @@ final class CallEdges {
     }
 
     private void parts() {
-        check.sentence("19", "NONE when they are alike to the end of both (0), do not MEET (1, 2), there is no WAY, there are none such, they are one, or for others.");
+        check.sentence("19",
+                "NONE when they are alike to the end of both (0), do not MEET (1, 2), there is no WAY, there are none such, they are one, or for others.");
         CalledRiver river = Check.river(PLAIN + "caller t bold 0 kind 9;");
         check.due("they PART", river.parts(0, 1, 0), 0);
         check.due("the same the other way", river.parts(1, 0, 0), 0);
@@ -140,6 +143,9 @@ final class CallEdges {
         for (int what : new int[] {-1, 3, 4, FAR, LOW}) {
             check.due("mill what " + what, river.mill(what), NONE);
         }
+        river = Check.river("plain 6 by 6;source 5;" + CALLER);
+        check.due("column in the largest plain", river.mill(0), 5);
+        check.due("row in the largest plain", river.mill(1), 1);
         for (int what = 0; what < 3; what++) {
             check.due("without CALLERS", Check.river("plain 2 by 2;").mill(what), NONE);
             check.due("without a WAY", Check.river("plain 2 by 2;stone 0 0;" + CALLER).mill(what), NONE);
@@ -167,8 +173,8 @@ final class CallEdges {
 
     private void seeRefused() {
         check.sentence("21", "NONE, refused (1), all staying, when it is none such (CELLS that there are), or without a plain.");
-        int[][] wrong = {{}, {0}, {0, 0}, {0, 0, 0, 0}, {0, 0, 0, 0, 0}, {41, 0, 0}, {255, 0, 0}, {0, 2, 0}, {0, 0, 3}, {0, 255, 0}, {0, 0, 255}, {0, 0, 0, 0, 2, 0}, {0, 0, 0, 41, 0, 0},
-            new int[49], new int[50], new int[51], new int[60]};
+        int[][] wrong = {{}, {0}, {0, 0}, {0, 0, 0, 0}, {0, 0, 0, 0, 0}, {41, 0, 0}, {255, 0, 0}, {0, 2, 0}, {0, 0, 3}, {0, 255, 0}, {0, 0, 255},
+            {0, 0, 0, 0, 2, 0}, {0, 0, 0, 41, 0, 0}, new int[49], new int[50], new int[51], new int[60]};
         for (int[] bytes : wrong) {
             check.refused(1, NONE, SentenceCheck::busy, river -> SentenceCheck.see(river, bytes));
         }
@@ -211,6 +217,12 @@ final class CallEdges {
         check.due("left", river.tells(1), 1);
         for (int what : new int[] {-1, 2, 3, FAR, LOW}) {
             check.due("tells what " + what, river.tells(what), NONE);
+        }
+        for (int caller = 0; caller < 2; caller++) {
+            SentenceCheck.see(river, 1, caller, 1 - caller);
+            check.due("one alone", river.who(), 1 << caller);
+            check.due("no STEP tells more", river.tells(0), 0);
+            check.due("he is left", river.tells(1), 1);
         }
         SentenceCheck.see(river, 40, 0, 0);
         check.due("nobody is left", river.tells(0), NONE);

@@ -142,8 +142,9 @@ final class FaultEdges {
 
     private void badNumbers() {
         check.sentence("I", "2 a number that can't be (of a CELL the row; a stone or a FARM that is there already, too), at it");
-        check.fault(2, "plain  ^7 by", "plain 3 by\n^1", HEAD + "high ^3", HEAD + "high 2 ^5", HEAD + "high 2 4 ^10", HEAD + "stone ^3", HEAD + "stone 2 ^5",
-                HEAD + "source ^3", HEAD + "farm a at ^3", HEAD + "farm a at 2 ^5", HEAD + "farm a at 2 4 day ^0", HEAD + "farm a at 2 4 day ^41",
+        check.fault(2, "plain  ^7 by", "plain 3 by\n^1", HEAD + "high ^3", HEAD + "high 2 ^5", HEAD + "high 2 4 ^10", HEAD + "stone ^3",
+                HEAD + "stone 2 ^5", HEAD + "source ^3", HEAD + "farm a at ^3", HEAD + "farm a at 2 ^5", HEAD + "farm a at 2 4 day ^0",
+                HEAD + "farm a at 2 4 day ^41",
                 HEAD + "farm a at 2 4 day ^9999", HEAD + "farm a at 2 4 day 40 pie ^10", HEAD + "caller a bold ^10", HEAD + "caller a bold 9 kind ^10");
         check.fault(2, HEAD + "stone 2 4;stone 2 ^4;", HEAD + "stone 2 4;stone 2  ^4", HEAD + "stone 2 4;stone 2 ^4 4", HEAD + "stone 0 0;stone 0 ^0000;");
         check.fault(2, HEAD + "farm a at 2 4 day 1 pie 1;farm b at 2 ^4 day 0 pie 1;", HEAD + "farm a at 0 0 day 1 pie 1;farm b at 0 ^0");
@@ -156,7 +157,8 @@ final class FaultEdges {
         check.sentence("I", "3 a NAME that is there already, at it");
         String ahead = HEAD + "farm a at 0 0 day 1 pie 1;farm bcdefg at 1 0 day 1 pie 1;caller h bold 0 kind 0;caller ijklmn bold 0 kind 0;";
         for (String name : new String[] {"a", "bcdefg", "h", "ijklmn"}) {
-            check.fault(3, ahead + "farm ^" + name, ahead + "caller \n ^" + name + " bold", ahead + "farm ^" + name + "1", ahead + "caller ^" + name + ";");
+            check.fault(3, ahead + "farm ^" + name, ahead + "caller \n ^" + name + " bold", ahead + "farm ^" + name + "1",
+                    ahead + "caller ^" + name + ";");
         }
         check.told(ahead + "farm b at 2 0 day 1 pie 1;caller hh bold 0 kind 0;", 7);
         check.fault(2, ahead + "farm b at ^9 0");
@@ -169,19 +171,22 @@ final class FaultEdges {
             check.told(HEAD + kind + "((((((1))))))+((((((1))))))*(1)-(((1)+(1))*(1));", 2);
             check.told(HEAD + kind + "min(max(min(max(min(max(1,2),3),4),5),6),7);", 2);
             check.told(HEAD + kind + "min(1,max(1,min(1,max(1,min(1,(2))))));", 2);
-            check.fault(4, HEAD + kind + "((((((^(1)))))));", HEAD + kind + "((((((  ^(", HEAD + kind + "((((((1+2)*(3+^(", HEAD + kind + "min(max(min(max(min(max(1,^(2",
-                    HEAD + kind + "((((((min^(1,2", HEAD + kind + "((((((max  ^(1,2", HEAD + kind + "(((((1)+((2)+(^((3", HEAD + kind + "min((((((^(1");
+            check.fault(4, HEAD + kind + "((((((^(1)))))));", HEAD + kind + "((((((  ^(", HEAD + kind + "((((((1+2)*(3+^(",
+                    HEAD + kind + "min(max(min(max(min(max(1,^(2", HEAD + kind + "((((((min^(1,2", HEAD + kind + "((((((max  ^(1,2",
+                    HEAD + kind + "(((((1)+((2)+(^((3", HEAD + kind + "min((((((^(1");
         }
         check.fault(1, HEAD + "goes ((((((min^;", HEAD + "goes ((((((^)", HEAD + "goes ((((((1))))))^);");
     }
 
     private void tooMany() {
         check.sentence("I", "5 one too many of a kind (a second goes, bakes, too), an 81st STATEMENT (whatever stands there), at its first byte.");
-        check.fault(5, TextEdges.farms(6) + "^farm", TextEdges.farms(6) + " \n ^farm fa at 9 9", TextEdges.callers(5) + "^caller", TextEdges.callers(5) + " ^caller 1",
+        check.fault(5, TextEdges.farms(6) + "^farm", TextEdges.farms(6) + " \n ^farm fa at 9 9", TextEdges.callers(5) + "^caller",
+                TextEdges.callers(5) + " ^caller 1",
                 HEAD + "goes 1; ^goes", HEAD + "bakes 1;\n^bakes @", HEAD + "goes 1;bakes 1; ^goes 1;", HEAD + "bakes 0;^bakes 0;");
         check.told(TextEdges.farms(6) + "caller a bold 0 kind 0;goes 1;stone 0 0;bakes 1;source 1;high 0 0 1;", 13);
         String full = HEAD + "high 0 0 1;".repeat(79);
-        for (String behind : new String[] {"^high 0 0 1;", "^plain", " ^;", "\n\n^@", "^x", "^7", "^12345", "^(", "^\u00ff", "^farm at", "^goes ((((((((", "^high 9"}) {
+        for (String behind : new String[] {"^high 0 0 1;", "^plain", " ^;", "\n\n^@", "^x", "^7", "^12345", "^(", "^\u00ff", "^farm at",
+                "^goes ((((((((", "^high 9"}) {
             check.fault(5, full + behind);
         }
         check.told(full + " \n ", 80);

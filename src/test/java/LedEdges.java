@@ -94,11 +94,49 @@ final class LedEdges {
 
     private void least() {
         check.sentence("III", "The LEAST is the fewest STEPS by which all told FARMS are WATERED.");
-        CalledRiver river = Check.river("plain 3 by 3;source 1;farm s at 1 0 day 1 pie 0;farm l at 0 2 day 40 pie 0;farm r at 2 2 day 40 pie 0;farm m at 1 1 day 40 pie 0;");
+        CalledRiver river = Check.river("plain 3 by 3;source 1;farm s at 1 0 day 1 pie 0;farm l at 0 2 day 40 pie 0;"
+                + "farm r at 2 2 day 40 pie 0;farm m at 1 1 day 40 pie 0;");
         int[] want = {0, 0, 3, 3, 3, 3, 5, 5, 1, 1, 3, 3, 3, 3, 5, 5};
         for (int farms = 0; farms < want.length; farms++) {
             check.due("least " + farms, river.least(farms), want[farms]);
         }
+        river.stone(1, 1, 1);
+        check.due("the midst is stone now", river.least(8), NONE);
+        check.due("round by the side", river.least(2), 3);
+        check.due("round by both sides", river.least(6), 5);
+        river.stone(0, 1, 1);
+        check.due("by the other side alone", river.least(2), 5);
+        river.stone(1, 0, 1);
+        check.due("the source is stone now", river.least(0), NONE);
+        river.undo();
+        check.due("and is not again", river.least(0), 0);
+        openPlain(new int[] {5, 0, 5, 5, 0, 5, 0, 1, 2, 0, 5, 3});
+        openPlain(new int[] {3, 3, 0, 0, 4, 1, 1, 4, 5, 5, 2, 2});
+        openPlain(new int[] {0, 5, 5, 5, 1, 0, 4, 0, 2, 5, 3, 5});
+    }
+
+    /** Six FARMS, a column and a row each, in a level plain without stones: by all sets, the best of all orders to come to them. */
+    private void openPlain(int[] places) {
+        StringBuilder text = new StringBuilder("plain 6 by 6;");
+        for (int k = 0; k < 6; k++) {
+            text.append("farm f").append((char) ('a' + k)).append(" at ");
+            text.append(places[2 * k]).append(' ').append(places[2 * k + 1]).append(" day 40 pie 0;");
+        }
+        CalledRiver river = Check.river(text.toString());
+        for (int farms = 0; farms < 64; farms++) {
+            check.due("least " + farms, river.least(farms), shortest(places, farms, 0, 0));
+        }
+    }
+
+    private static int shortest(int[] places, int farms, int column, int row) {
+        int least = farms == 0 ? 0 : 1000;
+        for (int k = 0; k < 6; k++) {
+            if ((farms >> k & 1) == 1) {
+                int there = Math.abs(places[2 * k] - column) + Math.abs(places[2 * k + 1] - row);
+                least = Math.min(least, there + shortest(places, farms & ~(1 << k), places[2 * k], places[2 * k + 1]));
+            }
+        }
+        return least;
     }
 
     private void dry() {
@@ -108,10 +146,12 @@ final class LedEdges {
         check.due("all", Check.river("plain 2 by 2;farm a at 1 0 day 1 pie 0;farm b at 1 1 day 40 pie 0;stone 1 0;stone 1 1;").dry(), 3);
         String sides = "plain 5 by 2;source 2;farm a at 0 0 day 2 pie 0;farm b at 4 0 day 2 pie 0;";
         check.due("either one, the least bits", Check.river(sides).dry(), 1);
-        check.due("one, not two with less bits", Check.river("plain 5 by 2;source 2;farm a at 0 0 day 2 pie 0;farm b at 1 0 day 1 pie 0;farm d at 4 0 day 2 pie 0;").dry(), 4);
+        check.due("one, not two with less bits",
+                Check.river("plain 5 by 2;source 2;farm a at 0 0 day 2 pie 0;farm b at 1 0 day 1 pie 0;farm d at 4 0 day 2 pie 0;").dry(), 4);
         check.due("two of six", Check.river("plain 5 by 2;source 2;farm a at 3 0 day 1 pie 0;farm b at 1 0 day 1 pie 0;farm d at 4 0 day 2 pie 0;"
                 + "farm e at 0 0 day 2 pie 0;farm f at 0 1 day 3 pie 0;farm g at 2 1 day 40 pie 0;").dry(), 5);
-        check.due("all six", Check.river("plain 6 by 2;source 0;stone 1 0;stone 0 1;farm a at 1 0 day 1 pie 0;farm b at 2 0 day 1 pie 0;farm d at 3 0 day 2 pie 0;"
+        check.due("all six",
+                Check.river("plain 6 by 2;source 0;stone 1 0;stone 0 1;farm a at 1 0 day 1 pie 0;farm b at 2 0 day 1 pie 0;farm d at 3 0 day 2 pie 0;"
                 + "farm e at 4 0 day 2 pie 0;farm f at 5 0 day 3 pie 0;farm g at 5 1 day 40 pie 0;").dry(), 63);
     }
 
@@ -155,15 +195,30 @@ final class LedEdges {
         check.due("b outbids a", Check.river(both).rest(0), 2);
         check.due("the pies stay", Check.river(both).has(7), 3);
         // without pies a is watered; so b gives one, then a, then b's is in vain, then a's is not needed
-        check.due("no set", Check.river("plain 3 by 2;source 1;farm a at 0 0 day 3 pie 1;farm b at 2 0 day 3 pie 1;goes pie;" + CALLER).rest(0), NONE);
+        String chase = "plain 3 by 2;source 1;farm a at 0 0 day 3 pie 1;farm b at 2 0 day 3 pie 1;goes pie;" + CALLER;
+        check.due("no set", Check.river(chase).rest(0), NONE);
+        check.due("no set, as 10 is more than a pie of 9", Check.river(chase.replace("pie 1", "pie 9")).rest(0), NONE);
+        // the land is as it is: stones, heights, what was wet, the YEAR
+        check.due("a stone", Check.river(beside + "1;stone 1 0;goes pie-down;" + CALLER).rest(0), 0);
+        check.due("a height", Check.river(beside + "1;high 1 0 1;goes pie-down;" + CALLER).rest(0), 0);
+        CalledRiver river = Check.river(beside + "1;goes pie*year-down;" + CALLER);
+        check.due("in vain in YEAR 0", river.rest(0), 0);
+        river.spring(0);
+        check.due("needed in YEAR 1", river.rest(0), 1);
+        river = Check.river(beside + "1;goes pie-down-been*2;" + CALLER);
+        check.due("needed where nothing was wet", river.rest(0), 1);
+        river.spring(0);
+        check.due("in vain where it was", river.rest(0), 0);
     }
 
     private void mostAtRest() {
         check.sentence("III", "of the most FARMS, of like ones the least bits. Two");
         // behind either side the WAY comes to the other one: either pie waters both, none waters neither
-        check.due("a or b, the least bits", Check.river("plain 3 by 3;source 1;farm a at 0 0 day 5 pie 1;farm b at 2 0 day 5 pie 1;goes 9*pie+down*(step-3);"
+        check.due("a or b, the least bits",
+                Check.river("plain 3 by 3;source 1;farm a at 0 0 day 5 pie 1;farm b at 2 0 day 5 pie 1;goes 9*pie+down*(step-3);"
                 + CALLER).rest(0), 1);
-        check.due("b or a, the least bits", Check.river("plain 3 by 3;source 1;farm a at 2 0 day 5 pie 1;farm b at 0 0 day 5 pie 1;goes 9*pie+down*(step-3);"
+        check.due("b or a, the least bits",
+                Check.river("plain 3 by 3;source 1;farm a at 2 0 day 5 pie 1;farm b at 0 0 day 5 pie 1;goes 9*pie+down*(step-3);"
                 + CALLER).rest(0), 1);
         check.due("all that have none", Check.river("plain 3 by 2;source 1;farm a at 0 0 day 9 pie 0;farm b at 2 0 day 9 pie 0;farm d at 1 1 day 1 pie 0;"
                 + CALLER).rest(0), 7);
@@ -197,6 +252,13 @@ final class LedEdges {
         check.due("behind STEP 2 still", river.parts(0, 1, 0), 2);
         check.due("where it comes to by its own STEPS", river.parts(0, 1, 2), 3);
         check.due("where the other comes to by its own", river.parts(1, 0, 1), 1);
+        // from both sides into one LAKE
+        river = Check.river("plain 3 by 3;source 1;high 1 0 2;high 0 0 1;high 2 0 1;high 0 1 1;high 2 1 1;high 0 2 9;high 1 2 9;high 2 2 9;"
+                + "farm f at 2 0 day 9 pie 9;caller a bold 0 kind 0;caller b bold 0 kind 9;goes height+kind*pie;");
+        check.due("behind the source", river.parts(0, 1, 0), 0);
+        check.due("in the last CELL of both, column", river.parts(0, 1, 1), 1);
+        check.due("row", river.parts(0, 1, 2), 1);
+        check.due("by STEPS of the other", river.parts(1, 0, 1), 1);
         river = Check.river("plain 3 by 2;source 1;caller a bold 0 kind 0;caller b bold 1 kind 0;goes 2*bold*down-down;");
         check.due("they PART", river.parts(0, 1, 0), 0);
         check.due("they do not MEET", river.parts(0, 1, 1), NONE);
@@ -225,7 +287,8 @@ final class LedEdges {
     }
 
     private void seen() {
-        check.sentence("III", "SEEN are rows of STEP (0 .. 40), column, row: CALLERS whose WAY is there by that STEP in this YEAR (all, if nothing is SEEN).");
+        check.sentence("III",
+                "SEEN are rows of STEP (0 .. 40), column, row: CALLERS whose WAY is there by that STEP in this YEAR (all, if nothing is SEEN).");
         CalledRiver river = Check.river(ROUND + STRAIGHT_ONE + ROUND_ONE);
         check.due("all", river.who(), 3);
         check.due("STEP 0", SentenceCheck.see(river, 0, 1, 0), 1);

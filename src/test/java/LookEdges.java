@@ -28,6 +28,7 @@ final class LookEdges {
         farm();
         caller();
         kept();
+        now();
         way();
         leads();
     }
@@ -121,6 +122,23 @@ final class LookEdges {
         Check.lay(river, "plain 2 by 2;x");
         check.due("without the x", river.end(13), true);
         check.due("plain", river.plain(), 1);
+        // what stood behind them is no part of a word or a number any more
+        Check.lay(river, "plain 2 by 2;farm a at 0 0 day 1 pie 1;farm b at 1 1 day 1 pie 2;");
+        river.plain();
+        Check.lay(river, "total 1234567 x");
+        river.end(10);
+        check.due("four digits", river.ask(), 2468);
+        Check.lay(river, "total pies");
+        river.end(9);
+        check.due("a word", river.ask(), 3);
+        Check.lay(river, "often all]");
+        river.end(9);
+        check.due("a sign", river.ask(), 2);
+        Check.lay(river, "plain 2 by 22");
+        river.end(12);
+        river.plain();
+        check.due("it ends too soon", river.fault(0), 1);
+        check.due("at its length", river.fault(1), 12);
         check.sentence("3", "false, refused (0), if it has not so many, or n is below 0.");
         river = new CalledRiver();
         int[] wrong = {1, -1, LOW, FAR, 1600};
@@ -175,6 +193,9 @@ final class LookEdges {
         CalledRiver river = SentenceCheck.busy();
         check.dueTold(river, SentenceCheck.BUSY, 10);
         check.alike(river, Check.river(SentenceCheck.BUSY));
+        for (int what : new int[] {4, 8, 9, 10}) {
+            check.due("has " + what, river.has(what), 0);
+        }
         check.due("undo", river.undo(), false);
         river = SentenceCheck.busy();
         check.dueTold(river, "plain 2 by 2;", 1);
@@ -201,11 +222,46 @@ final class LookEdges {
         for (int k = 0; k < 5; k++) {
             check.due("the seed that was told", river.kept(k, 1), other.kept(k, 1));
         }
+        staleTexts();
+        // the WAYS of the plain ahead do not stay
+        river = Check.river("plain 2 by 3;" + "caller l bold 0 kind 0;");
+        check.due("two STEPS", river.leads(0, 0), 2);
+        check.dueTold(river, "plain 2 by 5;caller l bold 0 kind 0;", 2);
+        check.due("four STEPS", river.leads(0, 0), 4);
         // sums of the plain ahead do not stay
         river = Check.river("plain 2 by 2;farm a at 0 1 day 1 pie 5;caller l bold 0 kind 0;goes down;bakes 9;");
         check.dueTold(river, "plain 2 by 2;farm a at 0 1 day 1 pie 5;caller l bold 0 kind 0;", 3);
         check.due("goes", river.spring(0), 1);
         check.due("bakes", river.farm(0, 3), 5);
+    }
+
+    /** Nothing stays of the plains ahead, nor of texts with a FAULT, whichever of them stands in the way. */
+    private void staleTexts() {
+        String full = "plain 3 by 3;high 0 0 9;high 1 1 5;stone 2 2;stone 0 1;source 2;"
+                + "farm a at 0 0 day 1 pie 9;farm b at 1 1 day 1 pie 9;farm e at 2 2 day 1 pie 9;"
+                + "caller c bold 1 kind 1;caller d bold 2 kind 2;goes 0-1;bakes 9;";
+        String bare = "plain 3 by 3;caller a bold 0 kind 0;farm d at 0 1 day 9 pie 4;farm c at 2 0 day 9 pie 5;";
+        String[][] rows = {{full}, {full + "x"}, {full, full + "x"}, {full, full}, {full, "plain 2 by 2;"}, {full, "plain 2 by 2;", "plain 2 by 2;x"},
+                {bare, full + "x"}};
+        for (String[] ahead : rows) {
+            CalledRiver river = new CalledRiver();
+            for (String text : ahead) {
+                Check.lay(river, text);
+                river.plain();
+            }
+            check.dueTold(river, bare, 4);
+            check.alike(river, Check.river(bare));
+            check.due("source", river.has(6), 0);
+            check.due("stones", river.has(5), 0);
+            check.due("pies", river.has(7), 9);
+            check.due("heights", river.cell(0, 0, 0) + river.cell(1, 1, 0), 0);
+            check.due("no FARM in the midst", river.cell(1, 1, 3), NONE);
+            check.due("CALLERS", river.has(3), 1);
+            check.way(river, 0, 0, 0, 0, 1, 0, 2);
+            river.spring(0);
+            check.due("bakes is pie", river.farm(0, 3), 4);
+            check.due("NAMES that were taken are not", river.letter(0, 1, 0), 3);
+        }
     }
 
     private void fault() {
@@ -282,14 +338,16 @@ final class LookEdges {
         check.sentence("8", "Of a CELL: 0 height, 1 whether it is stone, 2 how often it was wet, 3 its FARM (NONE).");
         CalledRiver river = Check.river(TEXT);
         river.spring(0);
-        int[][] want = {{0, 0, 7, 0, 1, NONE}, {1, 0, 0, 0, 0, NONE}, {2, 0, 0, 1, 0, NONE}, {0, 1, 0, 0, 1, 1}, {1, 1, 0, 1, 0, NONE}, {2, 1, 4, 0, 0, 0}};
+        int[][] want = {{0, 0, 7, 0, 1, NONE}, {1, 0, 0, 0, 0, NONE}, {2, 0, 0, 1, 0, NONE}, {0, 1, 0, 0, 1, 1}, {1, 1, 0, 1, 0, NONE},
+            {2, 1, 4, 0, 0, 0}};
         for (int[] one : want) {
             for (int what = 0; what < 4; what++) {
                 check.due("cell " + one[0] + " " + one[1] + " " + what, river.cell(one[0], one[1], what), one[what + 2]);
             }
         }
         check.sentence("8", "NONE when there is none such, or for others.");
-        int[][] none = {{3, 0, 0}, {0, 2, 0}, {-1, 0, 0}, {0, -1, 0}, {0, 0, 4}, {0, 0, -1}, {FAR, 0, 0}, {0, FAR, 0}, {LOW, 0, 0}, {0, LOW, 0}, {0, 0, FAR}, {0, 0, LOW}, {3, 1, 3}, {-1, 1, 0}};
+        int[][] none = {{3, 0, 0}, {0, 2, 0}, {-1, 0, 0}, {0, -1, 0}, {0, 0, 4}, {0, 0, -1}, {FAR, 0, 0}, {0, FAR, 0}, {LOW, 0, 0}, {0, LOW, 0},
+            {0, 0, FAR}, {0, 0, LOW}, {3, 1, 3}, {-1, 1, 0}};
         for (int[] one : none) {
             check.due("cell of none", river.cell(one[0], one[1], one[2]), NONE);
         }
@@ -353,9 +411,42 @@ final class LookEdges {
             check.due("kept what " + what, river.kept(0, what), NONE);
         }
         river.chance(100);
+        check.due("ahead of the first", river.kept(-1, 0), NONE);
+        check.due("ahead of the first", river.kept(-40, 0), NONE);
         check.due("the 40th", river.kept(39, 0), 102);
         check.due("the 41st", river.kept(40, 0), NONE);
         check.due("of none", Check.river(TEXT).kept(0, 0), NONE);
+    }
+
+    /** Each ACT, looked at ahead of it and behind it. */
+    private void now() {
+        check.sentence("12", "Of the WAY of a CALLER now,");
+        CalledRiver river = Check.river("plain 3 by 2;source 1;high 1 0 1;high 0 1 1;farm a at 2 0 day 9 pie 0;caller c bold 0 kind 0;goes 2*pie-down-5*been;");
+        check.way(river, 0, 1, 0, 1, 1);
+        river.bake(0, 1);
+        check.way(river, 0, 1, 0, 2, 0, 2, 1);
+        river.stone(2, 0, 1);
+        check.way(river, 0, 1, 0, 1, 1);
+        river.stone(1, 1, 1);
+        check.way(river, 0, 1, 0, 0, 0);
+        river.dig(0, 1);
+        check.way(river, 0, 1, 0, 0, 0, 0, 1);
+        river.stone(2, 0, 0);
+        check.way(river, 0, 1, 0, 2, 0, 2, 1);
+        river.spring(0);
+        check.way(river, 0, 1, 0, 0, 0, 0, 1);
+        river.undo();
+        check.way(river, 0, 1, 0, 2, 0, 2, 1);
+        river.chance(1);
+        check.way(river, 0, 1, 0, 0, 0, 0, 1);
+        int[] bytes = Check.picture(river);
+        for (int k = 0; k < 3; k++) {
+            river.undo();
+        }
+        check.way(river, 0, 1, 0, 0, 0);
+        Check.lay(river, bytes);
+        river.on();
+        check.way(river, 0, 1, 0, 0, 0, 0, 1);
     }
 
     private void way() {
@@ -387,8 +478,10 @@ final class LookEdges {
     }
 
     private void leads() {
-        check.sentence("13", "0 how many STEPS, 1 how it ends (0 LAKE, 1 SEA), 2 FARMS WATERED, as bits. NONE when there is no WAY, no such CALLER, or for others.");
-        CalledRiver river = Check.river("plain 2 by 3;farm a at 1 0 day 9 pie 0;farm b at 0 2 day 2 pie 0;farm c at 0 0 day 1 pie 0;farm d at 0 1 day 1 pie 0;caller l bold 0 kind 0;");
+        check.sentence("13",
+                "0 how many STEPS, 1 how it ends (0 LAKE, 1 SEA), 2 FARMS WATERED, as bits. NONE when there is no WAY, no such CALLER, or for others.");
+        CalledRiver river = Check.river("plain 2 by 3;farm a at 1 0 day 9 pie 0;farm b at 0 2 day 2 pie 0;farm c at 0 0 day 1 pie 0;"
+                + "farm d at 0 1 day 1 pie 0;caller l bold 0 kind 0;");
         check.due("STEPS", river.leads(0, 0), 2);
         check.due("SEA", river.leads(0, 1), 1);
         check.due("b, c, d", river.leads(0, 2), 14);

@@ -143,7 +143,8 @@ final class TextEdges {
         check.due("many products", baked("2*2*2*2/2/2"), 4);
         check.due("both", baked("1*2+3*4-8/2-2*3"), 4);
         check.due("as many as the tape holds", baked("1" + "+1".repeat(4) + "+0*1".repeat(370)), 5);
-        check.fault(1, HEAD + "goes 1+^;", HEAD + "goes 1-^;", HEAD + "goes 1*^;", HEAD + "goes 1/^;", HEAD + "goes 1+^*2;", HEAD + "goes 1 ^2;", HEAD + "goes 1 ^(2);", HEAD + "goes (1)^(2);",
+        check.fault(1, HEAD + "goes 1+^;", HEAD + "goes 1-^;", HEAD + "goes 1*^;", HEAD + "goes 1/^;", HEAD + "goes 1+^*2;", HEAD + "goes 1 ^2;",
+                HEAD + "goes 1 ^(2);", HEAD + "goes (1)^(2);",
                 HEAD + "goes 1^%2;", HEAD + "goes 1 ^min(1,2);");
     }
 
@@ -248,7 +249,8 @@ final class TextEdges {
     private void quotients() {
         check.sentence("I", "/ gives the greatest whole number not above, by 0 it gives 0");
         String plain = "plain 2 by 2;farm a at 0 1 day 1 pie 3;";
-        String[] sums = {"7/2", "(0-7)/2", "7/(0-2)", "(0-7)/(0-2)", "6/2", "(0-6)/2", "1/2", "(0-1)/2", "0/5", "0/(0-5)", "7/0", "(0-7)/0", "0/0", "9999*9999/(0-1)",
+        String[] sums = {"7/2", "(0-7)/2", "7/(0-2)", "(0-7)/(0-2)", "6/2", "(0-6)/2", "1/2", "(0-1)/2", "0/5", "0/(0-5)", "7/0", "(0-7)/0", "0/0",
+                "9999*9999/(0-1)",
             "(0-9999*9999)/(0-1)", "1/(0-9999)"};
         long[] want = {3, -4, -4, 3, 3, -3, 0, -1, 0, 0, 0, 0, 0, -1000000, 1000000, -1};
         for (int k = 0; k < sums.length; k++) {
@@ -296,7 +298,8 @@ final class TextEdges {
 
     private void names() {
         check.sentence("I", "NAMES: 1 to 6 letters, no OWN WORD, unlike ones (of all sorts).");
-        CalledRiver river = check.told(HEAD + "farm a at 0 0 day 1 pie 1;farm abcdef at 1 0 day 1 pie 1;caller z bold 0 kind 0;caller uvwxyz bold 0 kind 0;", 5);
+        CalledRiver river = check.told(HEAD
+                + "farm a at 0 0 day 1 pie 1;farm abcdef at 1 0 day 1 pie 1;caller z bold 0 kind 0;caller uvwxyz bold 0 kind 0;", 5);
         check.due("a letter", river.letter(0, 0, 0), 1);
         check.due("and no more", river.letter(0, 0, 1), 0);
         check.due("the sixth", river.letter(0, 1, 5), 6);
@@ -329,8 +332,8 @@ final class TextEdges {
         check.told(text.replace(" ;", ";").replace("; ", ";").replace(" (", "(").replace("( ", "(").replace(" )", ")").replace(") ", ")")
                 .replace(" + ", "+").replace(" * ", "*").replace(" , ", ",").replace(" - ", "-").replace(" / ", "/"), 5);
         check.fault(1, "plain^3 by 5;", "plain 3^by 5;", "plain 3 by^5;", "^plainby 3;", HEAD + "high^0 1 2;",
-                HEAD + "farm^1", HEAD + "^farmabc at", HEAD + "farm abc^1", HEAD + "farm abc ^att 2 4", HEAD + "farm abc at 2 4 day^40", HEAD + "farm abc at 2 4^day 40",
-                HEAD + "goes 1^bold;", HEAD + "goes bold^1;", HEAD + "goes ^boldkind;", HEAD + "^goesbold;");
+                HEAD + "farm^1", HEAD + "^farmabc at", HEAD + "farm abc^1", HEAD + "farm abc ^att 2 4", HEAD + "farm abc at 2 4 day^40",
+                HEAD + "farm abc at 2 4^day 40", HEAD + "goes 1^bold;", HEAD + "goes bold^1;", HEAD + "goes ^boldkind;", HEAD + "^goesbold;");
         for (char sign : new char[] {0, 9, 11, 13, 160, 255}) {
             check.fault(1, "^" + sign + "plain 3 by 5;", "plain^" + sign + "3 by 5;", "plain 3 by 5;^" + sign);
         }

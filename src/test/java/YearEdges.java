@@ -211,13 +211,11 @@ final class YearEdges {
         check.due("999", river.has(4), 999);
         check.due("no YEAR more", river.spring(0), NONE);
         check.due("999", river.has(4), 999);
-        check.due("the YEAR of bakes is the one that it was", bakedIn("year"), 0);
-    }
-
-    private static int bakedIn(String sum) {
-        CalledRiver river = Check.river("plain 2 by 2;farm a at 0 1 day 1 pie 5;" + CALLER + "bakes " + sum + ";");
-        river.spring(0);
-        return river.farm(0, 3);
+        river = Check.river("plain 2 by 2;farm a at 0 1 day 1 pie 5;" + CALLER + "bakes year;");
+        for (int year = 0; year < 12; year++) {
+            river.spring(0);
+            check.due("the YEAR of bakes is the one that it was", river.farm(0, 3), Math.min(year, 9));
+        }
     }
 
     private void atFirst() {
