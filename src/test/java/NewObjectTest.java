@@ -1,8 +1,5 @@
-/** Promise 1: a new object has no plain and nobody; the constants; the face has no more than the document's. */
+/** Promise 1: a new object has no plain and nobody; the constants. */
 public final class NewObjectTest {
-    private static final String FACE = "feed end plain fault has letter cell farm caller kept way leads best least dry bid rest"
-            + " parts mill see who tells spring bake dig stone chance undo seed ask image octet on status";
-
     public static void main(String[] args) {
         Check check = new Check();
         check.due("NONE", CalledRiver.NONE, -1);
@@ -10,7 +7,6 @@ public final class NewObjectTest {
         counts(check);
         nobody(check);
         acts(check);
-        face(check);
         check.finish();
     }
 
@@ -61,31 +57,5 @@ public final class NewObjectTest {
         check.due("on", river.on(), false);
         check.due("ask", river.ask(), CalledRiver.NOTHING);
         check.due("has(10)", river.has(10), 0);
-    }
-
-    private static void face(Check check) {
-        check.due("public methods", CalledRiver.class.getDeclaredMethods().length > 0 ? visible() : -1,
-                FACE.split(" ").length);
-        int fields = 0;
-        for (java.lang.reflect.Field field : CalledRiver.class.getDeclaredFields()) {
-            if (!java.lang.reflect.Modifier.isPrivate(field.getModifiers())) {
-                fields++;
-            }
-        }
-        check.due("fields that are seen", fields, 2);
-        check.due("constructors", CalledRiver.class.getDeclaredConstructors().length, 1);
-    }
-
-    private static int visible() {
-        int count = 0;
-        for (java.lang.reflect.Method method : CalledRiver.class.getDeclaredMethods()) {
-            boolean isFace = (" " + FACE + " ").contains(" " + method.getName() + " ");
-            boolean isPrivate = java.lang.reflect.Modifier.isPrivate(method.getModifiers());
-            if (isFace == isPrivate) {
-                throw new IllegalStateException(method.getName());
-            }
-            count += isFace ? 1 : 0;
-        }
-        return count;
     }
 }
